@@ -331,10 +331,9 @@ public final class GoBoard {
     }
 
     private void forgetWhatWasDone() {
+        // Row 0 has no prisoners and never gets any: no move leads to it.
         stones[0] = stones[2 * doneCount];
         stones[1] = stones[2 * doneCount + 1];
-        prisoners[0] = 0;
-        prisoners[1] = 0;
         doneCount = 0;
     }
 }

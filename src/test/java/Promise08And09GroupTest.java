@@ -5,6 +5,7 @@ public final class Promise08And09GroupTest {
     public static void main(String[] args) {
         sizesAndLiberties();
         longestWay();
+        everyTwoPoints();
         wrongInputs();
         EXPECT.end();
     }
@@ -48,6 +49,23 @@ public final class Promise08And09GroupTest {
         group(snake, 43, 30, 1);
         group(snake, 7, 6, 0);
         group(snake, 35, 6, 1);
+    }
+
+    private static void everyTwoPoints() {
+        for (int q = 0; q < 49; q++) {
+            int near = 0;
+            for (int r = 0; r < 49; r++) {
+                boolean neighbours = Math.abs(q % 7 - r % 7) + Math.abs(q / 7 - r / 7) == 1;
+                near += neighbours ? 1 : 0;
+                GoBoard two = new GoBoard();
+                two.set(1, q);
+                two.set(1, r);
+                EXPECT.due("groupSize of " + q + " with " + r, two.groupSize(q), neighbours ? 2 : 1);
+            }
+            GoBoard one = new GoBoard();
+            one.set(0, q);
+            group(one, q, 1, near);
+        }
     }
 
     private static void wrongInputs() {
