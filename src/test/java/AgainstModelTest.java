@@ -2,10 +2,10 @@
 public final class AgainstModelTest {
     private static final int RUNS = 400;
     private static final int CALLS = 512;
-    private static final int PLAY = 0;
-    private static final int PASS = 1;
-    private static final int UNDO = 2;
-    private static final int SET = 3;
+    private static final String[] QUESTIONS = {
+        "at", "captured", "groupSize", "liberties", "trial", "moves", "groups", "inAtari", "score",
+        "region", "done",
+    };
 
     private final Expect expect = new Expect();
     private long seed = 20260101L;
@@ -18,6 +18,7 @@ public final class AgainstModelTest {
 
     public static void main(String[] args) {
         AgainstModelTest test = new AgainstModelTest();
+        test.expect.says("What it is: an object is used for at most 512 calls");
         for (int run = 0; run < RUNS; run++) {
             test.run(run);
         }
@@ -50,27 +51,33 @@ public final class AgainstModelTest {
             int p = player();
             int q = point(width);
             if (call < filled) {
-                step(run, board, model, SET, p, point(7));
+                step(run, board, model, Call.set(p, point(7)));
             } else if (mayTakeBack && below(2) == 0) {
-                step(run, board, model, PLAY, 1 - lastPlayer, koPoint(model, q));
+                step(run, board, model, Call.play(1 - lastPlayer, koPoint(model, q)));
             } else if (kind < sets) {
-                step(run, board, model, SET, below(2) == 0 ? 2 : p, q);
+                step(run, board, model, Call.set(below(2) == 0 ? 2 : p, q));
             } else if (kind < sets + undos) {
-                step(run, board, model, UNDO, p, q);
+                step(run, board, model, Call.undo());
             } else if (kind < 55) {
-                step(run, board, model, PLAY, p, mostlyOpen(model, q, width));
+                step(run, board, model, Call.play(p, mostlyOpen(model, q, width)));
+            } else if (below(30) == 0) {
+                step(run, board, model, Call.pass());
             } else {
-                step(run, board, model, below(30) == 0 ? PASS : 4 + below(11), p, q);
+                step(run, board, model, new Call(QUESTIONS[below(QUESTIONS.length)], p, q));
             }
         }
     }
 
     private int player() {
-        return below(40) == 0 ? below(7) - 3 : below(2);
+        return below(40) == 0 ? one(Expect.NOT_A_PLAYER) : below(2);
     }
 
     private int point(int width) {
-        return below(60) == 0 ? below(80) - 15 : 7 * below(width) + below(width);
+        return below(60) == 0 ? one(Expect.NOT_A_POINT) : 7 * below(width) + below(width);
+    }
+
+    private int one(int[] numbers) {
+        return numbers[below(numbers.length)];
     }
 
     private int mostlyOpen(ModelBoard model, int first, int width) {
@@ -91,27 +98,12 @@ public final class AgainstModelTest {
         return otherwise;
     }
 
-    private void step(int run, GoBoard board, ModelBoard model, int method, int p, int q) {
-        int got;
-        int want;
-        switch (method) {
-            case PLAY -> { got = board.play(p, q); want = model.play(p, q); note(want, p); }
-            case PASS -> { got = board.pass(); want = model.pass(); }
-            case UNDO -> { got = board.undo(); want = model.undo(); }
-            case SET -> { got = board.set(p, q); want = model.set(p, q); }
-            case 4 -> { got = board.at(q); want = model.at(q); }
-            case 5 -> { got = board.captured(p); want = model.captured(p); }
-            case 6 -> { got = board.groupSize(q); want = model.groupSize(q); }
-            case 7 -> { got = board.liberties(q); want = model.liberties(q); }
-            case 8 -> { got = board.trial(p, q); want = model.trial(p, q); }
-            case 9 -> { got = board.moves(p); want = model.moves(p); }
-            case 10 -> { got = board.groups(p); want = model.groups(p); }
-            case 11 -> { got = board.inAtari(p); want = model.inAtari(p); }
-            case 12 -> { got = board.score(p); want = model.score(p); }
-            case 13 -> { got = board.region(q); want = model.region(q); }
-            default -> { got = board.done(); want = model.done(); }
+    private void step(int run, GoBoard board, ModelBoard model, Call call) {
+        int want = call.on(model);
+        expect.due("run " + run + ", " + call, call.on(board), want);
+        if (call.method().equals("play")) {
+            note(want, call.p());
         }
-        expect.due("run " + run + ", method " + method + " of (" + p + ", " + q + ")", got, want);
     }
 
     private void note(int answer, int p) {
