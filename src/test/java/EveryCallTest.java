@@ -1,6 +1,6 @@
 /**
- * Every method with the arguments at, inside and outside the edges of their ranges, in every
- * Position: the answer, and how things then stand, held against ModelBoard.
+ * "No call ever throws": every method with arguments at, inside and outside the edges of their
+ * ranges, in every Position. The answer, and how things then stand, are held against ModelBoard.
  */
 public final class EveryCallTest {
     private static final Expect EXPECT = new Expect();

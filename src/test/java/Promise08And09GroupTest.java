@@ -74,6 +74,13 @@ public final class Promise08And09GroupTest {
         group(snake, 7, 6, 0);
         group(snake, 22, 6, 0);
         group(snake, 35, 6, 1);
+        EXPECT.due("its last liberty", snake.play(1, 42), 30);
+
+        // No shortest way inside a set of points of this board is longer than this one.
+        GoBoard longest = Expect.drawn(
+                "XXOXXXX", "XOXXOOX", "XXXOXXX", "OOOXXOO", "XXXX.XX", "XOOOOOX", "XXXXXXX");
+        group(longest, 1, 33, 1);
+        group(longest, 33, 33, 1);
 
         GoBoard columns = Expect.drawn(
                 "OXOOOXO", "OXOXOXO", "OXOXOXO", "OXOXOXO", "OXOXOXO", "OXOXOXO", "OOOXOOO");

@@ -47,6 +47,12 @@ public final class Promise15RegionTest {
                 ".......", "XXXXXX.", ".....O.", ".XXX.O.", ".X...O.", ".XXXXX.", ".......");
         region(spiral, 0, 31);
         region(spiral, 30, 31);
+
+        // No shortest way inside a set of points of this board is longer than this one.
+        GoBoard longest = Expect.drawn(
+                "..X....", ".X..OO.", "...X...", "OOX..XX", "....O..", ".XXXXX.", ".......");
+        region(longest, 1, 33);
+        region(longest, 33, 33);
     }
 
     private static void onePoint() {
